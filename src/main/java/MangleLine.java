@@ -676,7 +676,6 @@ public final class MangleLine {
         private void clear() {
             size = 0;
             day = 0;
-            boiled = 0;
             System.arraycopy(RULE_AT_FIRST, 0, rules, 0, RULE_COUNT);
             Arrays.fill(suns, SUN_AT_FIRST);
         }
@@ -684,7 +683,6 @@ public final class MangleLine {
         private void become(Laundry other) {
             size = other.size;
             day = other.day;
-            boiled = other.boiled;
             System.arraycopy(other.kinds, 0, kinds, 0, MOST_ONES);
             System.arraycopy(other.greys, 0, greys, 0, MOST_ONES);
             System.arraycopy(other.wets, 0, wets, 0, MOST_ONES);
@@ -913,30 +911,24 @@ public final class MangleLine {
 
     /** The offer with the least cost; the earlier one stays where two cost the same. */
     private static final class Choice {
-        private boolean any;
-        private int pick;
+        private int pick = NONE;
         private int cost;
 
         /** Only what costs less than this is taken. */
         private void begin(int ceiling) {
-            any = false;
-            pick = 0;
+            pick = NONE;
             cost = ceiling;
         }
 
         private void offer(int offered, int itsCost) {
             if (itsCost < cost) {
-                any = true;
                 pick = offered;
                 cost = itsCost;
             }
         }
 
         private int tell(int what) {
-            if (!any) {
-                return NONE;
-            }
-            return what == 0 ? pick : cost;
+            return what == 0 || pick == NONE ? pick : cost;
         }
     }
 
@@ -1026,9 +1018,6 @@ public final class MangleLine {
 
         private void rewind() {
             at = 0;
-            token = SPOILT;
-            start = 0;
-            number = 0;
         }
 
         private void readToken() {

@@ -61,6 +61,9 @@ public final class BestTest {
         x.set(2, 0);
         due("by no peg", x.batch(0), -4);
         due("by no peg", x.batch(1), -4);
+        MangleLine six = Check.told("plain 0;plain 0;plain 0;plain 0;plain 0;plain 0;pegs 6;");
+        due("six at once", six.batch(0), 6);
+        due("behind two", six.batch(1), 2);
         due("batch(2)", x.batch(2), -1);
         due("batch(-1)", x.batch(-1), -1);
         x.set(2, 6);
@@ -87,11 +90,32 @@ public final class BestTest {
         due("behind 6", z.swap(1), 6);
         due("swap(2)", x.swap(2), -1);
         due("swap(-1)", x.swap(-1), -1);
-        // Places go along: ONE 0 is HOME, ONE 1 in the HEAP.
-        MangleLine v = Check.told("plain 0;");
+        // Two at once: ONE 0 and 2 need two rounds each, and had better go together.
+        MangleLine u = Check.told("plain 6;plain 0;plain 6;");
+        due("as it is", u.done(), 5);
+        due("neither is ONE 0", u.swap(0), 12);
+        due("behind 4", u.swap(1), 4);
+        // KINDS go along: a creased one takes four DAYS to dry.
+        MangleLine t = Check.told("plain 0;creased 0;batch 1;");
+        due("as it is", t.done(), 5);
+        due("the creased one first", t.swap(0), 1);
+        due("behind 4", t.swap(1), 4);
+        // Places go along: ONE 0 is HOME, and so is who comes from its place.
+        MangleLine v = Check.told("plain 0;batch 1;");
         v.days(2);
-        v.bring(0, 3);
-        due("places change with them", v.swap(0), -4);
+        v.bring(0, 0);
+        v.bring(0, 6);
+        due("as it is", v.done(), 5);
+        due("ONE 2 to the place of who is HOME", v.swap(0), 2);
+        due("behind 4", v.swap(1), 4);
+        // WET goes along: ONE 1 on the LINE has five DAYS to dry, wherever it stands.
+        MangleLine w = Check.told("plain 0;plain 0;");
+        w.days(1);
+        w.fetch(0);
+        w.alter(0, 2, 0);
+        w.alter(1, 2, 20);
+        due("as it is", w.done(), 5);
+        due("no swap dries it", w.swap(0), -4);
         MangleLine never = Check.told("plain 30;plain 0;blue 0;pegs 1;batch 1;pass 0;");
         due("never", never.done(), -4);
         due("nor by a swap", never.swap(0), -4);
@@ -130,6 +154,8 @@ public final class BestTest {
         for (int n = 0; n < wants.length; n++) {
             due("stain(0, " + n + ")", x.stain(0, n), wants[n]);
         }
+        MangleLine y = Check.told("plain 9;blue 0;");
+        due("none but 0", y.stain(0, 2), 0);
         due("stain(0, 60)", x.stain(0, 60), 60);
         due("stain(0, 61)", x.stain(0, 61), -1);
         due("stain(0, -1)", x.stain(0, -1), -1);

@@ -103,11 +103,9 @@ public final class ChangeTest {
         due("six", x.rule(0), 6);
 
         MangleLine y = Check.told("plain 0;");
-        y.keep(0);
-        y.days(2);
-        y.alter(0, 2, 9);
-        y.back(0);
-        Check.fed(y, "").text();
+        y.days(1);
+        y.runs(0, 0);
+        due("nobody again", y.text(), 0);
         due("who is brought anew is in the HEAP", y.bring(2, 5), 1);
         due("and not wet", y.one(0, 2), 0);
         due("and in the HEAP", y.one(0, 3), 0);

@@ -224,6 +224,11 @@ public final class DaysTest {
         due("done on the 60th", x.done(), 60);
         due("runs(60, 0)", x.runs(60, 0), 1);
         due("runs(59, 0)", x.runs(59, 0), 0);
+        MangleLine y = Check.told("plain 59;blue 1;soak 4;");
+        due("home on the 59th", y.home(0), 59);
+        due("done on the 59th", y.done(), 59);
+        y.alter(0, 1, 60);
+        due("and by 60", y.done(), 60);
         x.alter(0, 1, 21);
         due("none later", x.home(0), -4);
         due("none later", x.done(), -4);

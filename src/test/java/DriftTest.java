@@ -35,6 +35,9 @@ public final class DriftTest {
             due("none HOME", x.drift(seedFor(272, bit31, below), 1, 0), 0);
             // 144 by 128 is 1; SUN 4.
             due("1 more", x.drift(seedFor(144, bit31, below), 1, 1), 45);
+            // 255 by 128 is 1, 128 too; SUN 5, 8: both bleached.
+            due("1 more up to 255", x.drift(seedFor(255, bit31, below), 1, 1), 43);
+            due("1 more from 128", x.drift(seedFor(128, bit31, below), 1, 1), 43);
             // 384 by 128 is 3: 0 more; SUN 4.
             due("0 more", x.drift(seedFor(384, bit31, below), 1, 1), 44);
             // 5: SUN 5 bleaches both, nothing more.

@@ -5,6 +5,7 @@ public final class ImageTest {
     public static void main(String[] args) {
         keepAndBack();
         whatAnImageIs();
+        whatWasSeen();
         twoImages();
         imagesAreNotShared();
         wrong();
@@ -80,6 +81,22 @@ public final class ImageTest {
         due("kinds(1)", x.kinds(1), seen[1]);
         due("greys(0)", x.greys(0), seen[2]);
         due("greys(1)", x.greys(1), seen[3]);
+    }
+
+    private static void whatWasSeen() {
+        MangleLine x = Check.told("plain 0;plain 0;");
+        x.see(2, 0, 2);
+        x.keep(0);
+        int[][] others = {{1, 0, 2}, {2, 1, 2}, {2, 0, 1}};
+        for (int[] other : others) {
+            x.forget(0);
+            x.see(other[0], other[1], other[2]);
+            x.see(20, 0, 0);
+            CHECK.holds("another", x.kinds(0) != 11);
+            x.back(0);
+            due("SEEN", x.count(0), 1);
+            due("as it was SEEN", x.kinds(0), 11);
+        }
     }
 
     private static void twoImages() {

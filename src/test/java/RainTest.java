@@ -34,6 +34,8 @@ public final class RainTest {
         luck(x, 3, 0, 2, 49, 100);
         // Two of three: 343 and 3 times 147 of 1000.
         luck(x, 3, 0, 3, 98, 125);
+        luck(x, 1, 0, 2, 81, 100);
+        luck(x, 9, 0, 2, 1, 100);
         luck(x, 5, 0, 2, 1, 4);
         luck(x, 5, 0, 3, 1, 2);
         luck(x, 0, 0, 2, 1, 1);

@@ -11,6 +11,7 @@ public final class SeenTest {
         fromNowOn();
         ask();
         askOfAnother();
+        askOfTheLastDay();
         nothingIsChanged();
         CHECK.end();
     }
@@ -34,6 +35,7 @@ public final class SeenTest {
         due("the 7th", x.see(0, 0, 0), -3);
         due("the 7th, wrong", x.see(21, 0, 0), -1);
         due("six", x.count(0), 6);
+        due("at odds among themselves", x.kinds(0) + x.greys(0), 0);
         due("nobody", new MangleLine().see(0, 0, 0), -1);
     }
 
@@ -157,6 +159,18 @@ public final class SeenTest {
         // Boiled once without a peg, then as above two DAYS late: HOME behind 2k DAYS by GREY up to 3k.
         due("who is told too", y.ask(1, 0), 101);
         due("left at the worst", y.ask(1, 1), 16);
+    }
+
+    /** A SUN of 1 and SOAK 20: not a DAY ahead of the 20th tells. */
+    private static void askOfTheLastDay() {
+        MangleLine x = Check.told("plain 7;blue 9;soak 20;sun 1 1 1 1 1 1 1;");
+        due("behind 20", x.ask(0, 0), 200);
+        due("10 to 30 at the worst", x.ask(0, 1), 21);
+        x.set(0, 0);
+        x.shine(0, 0);
+        due("none behind 21", x.ask(0, 0), -4);
+        MangleLine y = Check.told("plain 0;plain 0;plain 0;plain 0;plain 0;plain 0;batch 6;pegs 6;");
+        due("of six, the last", y.ask(5, 0), 105);
     }
 
     private static void nothingIsChanged() {

@@ -83,6 +83,18 @@ public final class TextTest {
         due("feed again", x.feed(';'), 160);
         due("a full tape is read whole", x.text(), -10 - 159);
         due("empty then", x.count(2), 0);
+        due("160 blanks", Check.fed(x, " ".repeat(160)).text(), 0);
+        Check.fed(x, " ".repeat(157) + "sun").text();
+        due("a NAME at the very end", x.fault(), 2);
+        due("its place", Check.fed(x, " ".repeat(157) + "sun").text(), -170);
+        due("a NUMBER at the very end", Check.fed(x, " ".repeat(155) + "sun 1").text(), -170);
+        due("lines to the very end", Check.fed(x, "plain 1;" + " ".repeat(148) + "sun;").text(), 2);
+        Check.fed(x, "plain 12;");
+        x.end(7);
+        due("what was cut off is not read: a NUMBER", x.text(), -17);
+        Check.fed(x, "sun    ");
+        x.end(3);
+        due("nor blanks", x.text(), -13);
         Check.fed(x, "plain 1;@@@");
         due("end(8)", x.end(8), 11);
         due("what is kept is told", x.text(), 1);
@@ -108,6 +120,7 @@ public final class TextTest {
         x.days(4);
         x.see(0, 0, 0);
         x.keep(1);
+        x.runs(3, 0);
         Check.fed(x, "napkin 2;sun 0 0 0 0 0 0 8;");
         due("text()", x.text(), 2);
         due("ONES", x.rule(0), 1);
@@ -202,6 +215,15 @@ public final class TextTest {
         text("plain plain 5;", -16, 2);
         text("plain 5 6;", -18, 2);
         text("plain 5 plain;", -18, 2);
+        String[] words = {"plain", "wicked", "creased", "napkin", "blue", "batch", "pegs", "pass", "soak", "sun"};
+        for (String word : words) {
+            text(word + " 1;", 1, 0);
+            text(word + "s 1;", -10, 2);
+            text("a" + word + " 1;", -10, 2);
+            for (int c = 0; c < word.length(); c++) {
+                text(word.substring(0, c) + "z" + word.substring(c + 1) + " 1;", -10, 2);
+            }
+        }
         text("blue;", -14, 2);
         text("batch batch;", -16, 2);
         text("pegs 1", -16, 2);
