@@ -1187,8 +1187,9 @@ public final class MangleLine {
                 if (tape.token == Tape.STOP) {
                     return true;
                 }
+                // Whatever stands in an 8th NUMBER's place is one too many, be it a NUMBER or not.
                 if (d == WEEK) {
-                    return blameBehindWeek();
+                    return blame(TOO_MANY);
                 }
                 if (!isNumber(0, MOST_SUN)) {
                     return false;
@@ -1196,11 +1197,6 @@ public final class MangleLine {
                 draft.suns[d] = tape.number;
             }
             return false;
-        }
-
-        /** An 8th NUMBER is one too many, even where it could be no SUN. */
-        private boolean blameBehindWeek() {
-            return blame(tape.token == Tape.NUMBER ? TOO_MANY : MISPLACED);
         }
 
         private boolean isNumber(int least, int most) {

@@ -246,11 +246,8 @@ final class Oracle {
             if (t.letters.equals(";")) {
                 return t.behind();
             }
-            if (t.isNumber() && d == 7) {
-                throw new Fault(5, t.place);
-            }
             if (d == 7) {
-                throw new Fault(2, t.place);
+                throw new Fault(5, t.place);
             }
             t = number(text, at, 0, 9);
             w.suns[d] = Integer.parseInt(t.letters);

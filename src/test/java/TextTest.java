@@ -232,8 +232,8 @@ public final class TextTest {
         text("sun 1 2", -17, 2);
         text("sun blue 1;", -14, 2);
         text("sun 1 2 blue 1;", -18, 2);
-        text("sun 1 2 3 4 5 6 7", -27, 2);
-        text("sun 1 2 3 4 5 6 7 blue 1;", -28, 2);
+        text("sun 1 2 3 4 5 6", -25, 2);
+        text("sun 1 2 3 4 5 6 blue 1;", -26, 2);
     }
 
     private static void bounds() {
@@ -271,6 +271,12 @@ public final class TextTest {
         text("sun 1 1 1 1 1 1 1 1;", -28, 5);
         text("sun 1 1 1 1 1 1 1 10;", -28, 5);
         text("sun 1 1 1 1 1 1 1 100;", -28, 1);
+        text("sun 1 1 1 1 1 1 1 @", -28, 1);
+        text("sun 1 1 1 1 1 1 1 blue 1;", -28, 5);
+        text("sun 1 1 1 1 1 1 1 x;", -28, 5);
+        text("sun 1 1 1 1 1 1 1", -27, 5);
+        text("sun 1 1 1 1 1 1 1 ", -28, 5);
+        text("sun 1 1 1 1 1 1 1 ;", 1, 0);
     }
 
     private static void theFirstFaultMet() {
