@@ -981,15 +981,15 @@ public final class MangleLine {
             return Math.min(most, (length - from) / 2);
         }
 
-        /** The lane is looked at when the row is taken, all else when a CELL is read: so does the machine. */
+        /** Why the pair that was read next was not whole; nothing is read 0 times, so then nothing is refused. */
         private int faultOfReading(int asLane, boolean cutShort) {
-            if (isAnotherLane(asLane)) {
-                return CAST_FAULT;
-            }
             if (!cutShort) {
                 return 0;
             }
-            return isNothing() ? NULL_FAULT : INDEX_FAULT;
+            if (isNothing()) {
+                return NULL_FAULT;
+            }
+            return isAnotherLane(asLane) ? CAST_FAULT : INDEX_FAULT;
         }
     }
 

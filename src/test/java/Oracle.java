@@ -755,8 +755,8 @@ final class Oracle {
         }
     }
 
-    private static int cell(byte[] bytes, short[] shorts, int[] ints, int lane, int i) {
-        return lane == 0 ? bytes[i] : lane == 1 ? shorts[i] : ints[i];
+    private static int cell(Object row, int lane, int i) {
+        return lane == 0 ? ((byte[]) row)[i] : lane == 1 ? ((short[]) row)[i] : ((int[]) row)[i];
     }
 
     int read(int k, int lane, int f, int n) {
@@ -767,12 +767,9 @@ final class Oracle {
         int came = 0;
         int found = 0;
         try {
-            byte[] bytes = lane == 0 ? (byte[]) sheets[k] : null;
-            short[] shorts = lane == 1 ? (short[]) sheets[k] : null;
-            int[] ints = lane == 2 ? (int[]) sheets[k] : null;
             for (int i = 0; i < n; i++) {
-                int kind = cell(bytes, shorts, ints, lane, f + 2 * i);
-                int grey = cell(bytes, shorts, ints, lane, f + 2 * i + 1);
+                int kind = cell(sheets[k], lane, f + 2 * i);
+                int grey = cell(sheets[k], lane, f + 2 * i + 1);
                 if (bring(kind, grey) < 0) {
                     now = before;
                     return -20 - i;

@@ -203,15 +203,26 @@ public final class SheetTest {
         due("one came", x.rule(0), 1);
     }
 
-    /** The machine looks at the lane when a row is taken, and at nothing else before a CELL is read. */
+    /** 0 times nothing is read: the machine refuses nothing, and an earlier FAULT is the latest no more. */
     private static void noneToRead() {
         MangleLine x = laid(new MangleLine(), 1, 1, 0, 1);
-        due("of nothing", x.read(0, 0, 0, 0), 0);
+        x.sheet(2, 0, 0);
+        readsNone(x, 0, 0, 0);
+        readsNone(x, 0, 2, -7);
+        readsNone(x, 1, 1, -7);
+        readsNone(x, 1, 1, 2);
+        readsNone(x, 1, 0, 0);
+        readsNone(x, 1, 2, 40);
+        readsNone(x, 2, 0, 0);
+        readsNone(x, 2, 1, 0);
+        due("nobody came", x.rule(0), 0);
+    }
+
+    private static void readsNone(MangleLine x, int k, int lane, int f) {
+        x.read(1, 1, 1, 1);
+        due("a FAULT ahead", x.torn(), 2);
+        due("none of " + k + " as of " + lane + " from " + f, x.read(k, lane, f, 0), 0);
         due("no FAULT", x.torn(), 0);
-        due("from afar", x.read(1, 1, -7, 0), 0);
-        due("no FAULT", x.torn(), 0);
-        due("of another lane", x.read(1, 0, 0, 0), 0);
-        due("CAST", x.torn(), 3);
     }
 
     private static void tornIsOfTheLatestThatEnded() {
