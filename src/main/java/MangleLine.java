@@ -1187,9 +1187,9 @@ public final class MangleLine {
                 if (tape.token == Tape.STOP) {
                     return true;
                 }
-                // Whatever stands in an 8th NUMBER's place is one too many, be it a NUMBER or not.
+                // An 8th NUMBER is one too many ahead of its bounds; without a NUMBER there is no 8th SUN.
                 if (d == WEEK) {
-                    return blame(TOO_MANY);
+                    return blame(tape.token == Tape.NUMBER ? TOO_MANY : MISPLACED);
                 }
                 if (!isNumber(0, MOST_SUN)) {
                     return false;

@@ -246,7 +246,7 @@ final class Oracle {
             if (t.letters.equals(";")) {
                 return t.behind();
             }
-            if (d == 7) {
+            if (d == 7 && t.isNumber()) {
                 throw new Fault(5, t.place);
             }
             t = number(text, at, 0, 9);

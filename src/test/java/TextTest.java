@@ -13,6 +13,7 @@ public final class TextTest {
         bounds();
         twice();
         tooMany();
+        noEighthSun();
         theFirstFaultMet();
         askedOnes();
         wrongNumbers();
@@ -272,11 +273,21 @@ public final class TextTest {
         text("sun 1 1 1 1 1 1 1 10;", -28, 5);
         text("sun 1 1 1 1 1 1 1 100;", -28, 1);
         text("sun 1 1 1 1 1 1 1 @", -28, 1);
-        text("sun 1 1 1 1 1 1 1 blue 1;", -28, 5);
-        text("sun 1 1 1 1 1 1 1 x;", -28, 5);
-        text("sun 1 1 1 1 1 1 1", -27, 5);
-        text("sun 1 1 1 1 1 1 1 ", -28, 5);
+        text("sun 1 1 1 1 1 1 1 99", -28, 5);
+        text("sun 1 1 1 1 1 1 1 0blue", -28, 5);
         text("sun 1 1 1 1 1 1 1 ;", 1, 0);
+    }
+
+    /** Where no NUMBER stands behind seven SUNS there is no 8th SUN. */
+    private static void noEighthSun() {
+        text("sun 1 1 1 1 1 1 1", -27, 2);
+        text("sun 1 1 1 1 1 1 1 ", -28, 2);
+        text("sun0 0 0 0 0 0 0", -26, 2);
+        text("sun 1 1 1 1 1 1 1 blue 1;", -28, 2);
+        text("sun 1 1 1 1 1 1 1blue 1;", -27, 2);
+        text("sun 1 1 1 1 1 1 1 x;", -28, 2);
+        text("sun 1 1 1 1 1 1 1 sun;", -28, 2);
+        text("plain 1;sun 9 9 9 9 9 9 9 plain 1;", -36, 2);
     }
 
     private static void theFirstFaultMet() {
