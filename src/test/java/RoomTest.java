@@ -10,11 +10,13 @@ public final class RoomTest {
     private static long sink;
 
     public static void main(String[] args) {
-        MangleLine x = new MangleLine();
-        everyCall(x);
-        // The machine itself may make something when it first meets a call.
+        MangleLine[] objects = new MangleLine[20];
+        for (int k = 0; k < objects.length; k++) {
+            objects[k] = new MangleLine();
+        }
+        // The machine itself may make something when it first meets a call, so the least of several counts.
         long least = Long.MAX_VALUE;
-        for (int k = 0; k < 20; k++) {
+        for (MangleLine x : objects) {
             long before = made();
             everyCall(x);
             least = Math.min(least, made() - before);

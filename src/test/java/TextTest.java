@@ -5,6 +5,8 @@ public final class TextTest {
     public static void main(String[] args) {
         newObject();
         feedAndEnd();
+        fullTapes();
+        whatIsCutOff();
         linesThatAreTaken();
         aTextTellsAll();
         aRefusedTextChangesNothing();
@@ -84,12 +86,17 @@ public final class TextTest {
         due("feed again", x.feed(';'), 160);
         due("a full tape is read whole", x.text(), -10 - 159);
         due("empty then", x.count(2), 0);
-        due("160 blanks", Check.fed(x, " ".repeat(160)).text(), 0);
-        Check.fed(x, " ".repeat(157) + "sun").text();
-        due("a NAME at the very end", x.fault(), 2);
-        due("its place", Check.fed(x, " ".repeat(157) + "sun").text(), -170);
-        due("a NUMBER at the very end", Check.fed(x, " ".repeat(155) + "sun 1").text(), -170);
-        due("lines to the very end", Check.fed(x, "plain 1;" + " ".repeat(148) + "sun;").text(), 2);
+    }
+
+    private static void fullTapes() {
+        text(" ".repeat(160), 0, 0);
+        text(" ".repeat(157) + "sun", -170, 2);
+        text(" ".repeat(155) + "sun 1", -170, 2);
+        text("plain 1;" + " ".repeat(148) + "sun;", 2, 0);
+    }
+
+    private static void whatIsCutOff() {
+        MangleLine x = new MangleLine();
         Check.fed(x, "plain 12;");
         x.end(7);
         due("what was cut off is not read: a NUMBER", x.text(), -17);
