@@ -1,9 +1,6 @@
-import java.math.BigInteger;
-
 /** Promise 34: drift. */
 public final class DriftTest {
     private static final Check CHECK = new Check("DriftTest");
-    private static final BigInteger ALL_INTS = BigInteger.ONE.shiftLeft(32);
 
     public static void main(String[] args) {
         theFirstDay();
@@ -19,61 +16,54 @@ public final class DriftTest {
         CHECK.due(call, got, want);
     }
 
-    /** A seed by which just this is got on the first DAY, whatever stands in bit 31 and below bit 16. */
-    private static int seedFor(int got, int bit31, int below) {
-        long turned = ((long) bit31 << 31) + ((long) got << 16) + below;
-        BigInteger inverse = BigInteger.valueOf(1103515245).modInverse(ALL_INTS);
-        return BigInteger.valueOf(turned - 12345).multiply(inverse).mod(ALL_INTS).intValue();
-    }
-
     private static void theFirstDay() {
         for (int bit31 = 0; bit31 < 2; bit31++) {
             int below = 65535 * bit31;
             // SUN 2: 20 and 30 GREY by BLUE 3 are 17 and 27; 272 by 16 is 17, odd; 272 by 128 is 2.
             MangleLine x = Check.told("plain 20;plain 30;");
-            due("2 more", x.drift(seedFor(272, bit31, below), 1, 1), 46);
-            due("none HOME", x.drift(seedFor(272, bit31, below), 1, 0), 0);
+            due("2 more", x.drift(Seeds.seedFor(272, bit31, below), 1, 1), 46);
+            due("none HOME", x.drift(Seeds.seedFor(272, bit31, below), 1, 0), 0);
             // 144 by 128 is 1; SUN 4.
-            due("1 more", x.drift(seedFor(144, bit31, below), 1, 1), 45);
+            due("1 more", x.drift(Seeds.seedFor(144, bit31, below), 1, 1), 45);
             // 255 by 128 is 1, 128 too; SUN 5, 8: both bleached.
-            due("1 more up to 255", x.drift(seedFor(255, bit31, below), 1, 1), 43);
-            due("1 more from 128", x.drift(seedFor(128, bit31, below), 1, 1), 43);
+            due("1 more up to 255", x.drift(Seeds.seedFor(255, bit31, below), 1, 1), 43);
+            due("1 more from 128", x.drift(Seeds.seedFor(128, bit31, below), 1, 1), 43);
             // 384 by 128 is 3: 0 more; SUN 4.
-            due("0 more", x.drift(seedFor(384, bit31, below), 1, 1), 44);
+            due("0 more", x.drift(Seeds.seedFor(384, bit31, below), 1, 1), 44);
             // 5: SUN 5 bleaches both, nothing more.
-            due("bleached", x.drift(seedFor(5, bit31, below), 1, 1), 42);
+            due("bleached", x.drift(Seeds.seedFor(5, bit31, below), 1, 1), 42);
             // 32767: SUN 7, 255 modulo 3 is 0.
-            due("the greatest", x.drift(seedFor(32767, bit31, below), 1, 1), 42);
+            due("the greatest", x.drift(Seeds.seedFor(32767, bit31, below), 1, 1), 42);
             MangleLine y = Check.told("plain 0;wicked 1;soak 7;");
-            due("HOME by a SUN of 7", y.drift(seedFor(7, bit31, below), 1, 0), 2);
-            due("not by a SUN of 6", y.drift(seedFor(6, bit31, below), 1, 0), 0);
+            due("HOME by a SUN of 7", y.drift(Seeds.seedFor(7, bit31, below), 1, 0), 2);
+            due("not by a SUN of 6", y.drift(Seeds.seedFor(6, bit31, below), 1, 0), 0);
         }
     }
 
     private static void greyAheadOfTheDay() {
         // 289: SUN 9; 18 modulo 2 is ONE 0, 2 more ahead of the boiling: 3 by BLUE 3 is 0, not 2.
         MangleLine x = Check.told("plain 1;plain 0;soak 9;");
-        due("clean all the same", x.drift(seedFor(289, 0, 0), 1, 1), 0);
-        due("both HOME", x.drift(seedFor(289, 0, 0), 1, 0), 2);
+        due("clean all the same", x.drift(Seeds.seedFor(289, 0, 0), 1, 1), 0);
+        due("both HOME", x.drift(Seeds.seedFor(289, 0, 0), 1, 0), 2);
         // Of three ONES 18 modulo 3 is 0, 17 modulo 3 is 2.
         MangleLine y = Check.told("plain 9;plain 9;plain 1;blue 1;batch 6;soak 9;");
-        due("ONE 2 is not clean", y.drift(seedFor(279, 0, 0), 1, 0), 0);
-        due("but is by ONE 0", y.drift(seedFor(289, 0, 0), 1, 0), 1);
+        due("ONE 2 is not clean", y.drift(Seeds.seedFor(279, 0, 0), 1, 0), 0);
+        due("but is by ONE 0", y.drift(Seeds.seedFor(289, 0, 0), 1, 0), 1);
     }
 
     private static void sixtyAtMost() {
         MangleLine x = Check.told("plain 59;blue 0;");
-        due("60 at most", x.drift(seedFor(272, 0, 0), 1, 1), 60);
+        due("60 at most", x.drift(Seeds.seedFor(272, 0, 0), 1, 1), 60);
         x.alter(0, 1, 58);
-        due("60", x.drift(seedFor(272, 0, 0), 1, 1), 60);
+        due("60", x.drift(Seeds.seedFor(272, 0, 0), 1, 1), 60);
     }
 
     private static void homeIsSoiledToo() {
         MangleLine x = Check.told("plain 0;");
         x.days(2);
         due("HOME", x.rule(4), 1);
-        due("greyer at HOME", x.drift(seedFor(272, 0, 0), 1, 1), 2);
-        due("HOME still", x.drift(seedFor(272, 0, 0), 1, 0), 1);
+        due("greyer at HOME", x.drift(Seeds.seedFor(272, 0, 0), 1, 1), 2);
+        due("HOME still", x.drift(Seeds.seedFor(272, 0, 0), 1, 0), 1);
         due("GREY as it was", x.one(0, 1), 0);
         due("DAY as it was", x.rule(1), 2);
         due("suns as they were", x.count(5), 28);

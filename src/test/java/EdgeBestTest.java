@@ -183,6 +183,28 @@ public final class EdgeBestTest {
         due("behind 6", x.swap(1), 6);
     }
 
+    private static void promise23WhoChangesPlacesGoesWhole() {
+        MangleLine kinds = Check.told("plain 0;creased 0;batch 1;");
+        due("as it is", kinds.done(), 5);
+        due("a creased one takes four DAYS", kinds.swap(0), 1);
+        due("behind 4", kinds.swap(1), 4);
+        // On the LINE both, the creased one wet for ten DAYS wherever it stands.
+        MangleLine wets = Check.told("creased 0;plain 0;soak 20;");
+        wets.days(1);
+        wets.alter(0, 2, 20);
+        wets.alter(1, 2, 2);
+        due("as it is", wets.done(), 10);
+        due("WET goes along", wets.swap(0), -4);
+        // ONE 0 is HOME, and would be so as ONE 2.
+        MangleLine places = Check.told("plain 0;batch 1;");
+        places.days(2);
+        places.bring(0, 0);
+        places.bring(0, 6);
+        due("as it is", places.done(), 5);
+        due("HOME goes along", places.swap(0), 2);
+        due("behind 4", places.swap(1), 4);
+    }
+
     private static void promise23NotSoonerIsNone() {
         MangleLine x = Check.told("plain 0;plain 0;");
         due("alike", x.swap(0), -4);

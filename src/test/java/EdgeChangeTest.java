@@ -202,6 +202,8 @@ public final class EdgeChangeTest {
         MangleLine x = Check.told("plain 0;plain 0;soak 20;");
         x.days(1);
         due("who stood there was on the LINE", x.rule(3), 3);
+        // A question BY DAYS ahead of it must not be left in what is told anew.
+        due("who stood there would be on the LINE", x.runs(1, 2), 3);
         due("nobody", x.text(), 0);
         for (int i = 0; i < 2; i++) {
             due("bring(2, 9)", x.bring(2, 9), i + 1);

@@ -69,6 +69,9 @@ public final class EdgeDaysTest {
         due("nobody is there", new MangleLine().days(30), 0);
         MangleLine y = Check.told("plain 9;blue 0;soak 4;");
         due("into the HEAP is not HOME", y.days(30), 0);
+        MangleLine z = Check.told("plain 0;plain 0;plain 0;plain 0;batch 1;soak 4;");
+        due("one on each of three DAYS", z.days(3), 3);
+        due("and one more", z.days(30), 1);
     }
 
     private static void promise15AllAreBoiledIfThereAreFewerThanABatch() {
@@ -106,6 +109,9 @@ public final class EdgeDaysTest {
             MangleLine x = Check.told("plain " + greys[k] + ";sun 0;");
             x.days(1);
             due("GREY " + greys[k] + " by BLUE 3", x.one(0, 1), then[k]);
+            MangleLine y = Check.told("plain " + greys[k] + ";pegs 0;");
+            y.days(1);
+            due("GREY " + greys[k] + " without PEGS", y.one(0, 1), then[k]);
         }
     }
 
@@ -369,6 +375,15 @@ public final class EdgeDaysTest {
         due("behind 1", y.home(0), 1);
     }
 
+    private static void promise18TheWeekTurnsOver() {
+        MangleLine x = Check.told("plain 0;soak 18;sun 9 0 0 0 0 0 0;");
+        due("by DAY 0 and DAY 7", x.home(0), 8);
+        x.days(1);
+        due("by DAY 7", x.home(0), 7);
+        x.days(6);
+        due("by this DAY", x.home(0), 1);
+    }
+
     private static void promise18ChangesNothing() {
         CHECK.leaves("home(5)", Scene.FULL, -4, x -> x.home(5));
         CHECK.onlyAsks("home(3)", x -> x.home(3));
@@ -401,6 +416,15 @@ public final class EdgeDaysTest {
         due("all behind 3", x.done(), 3);
         x.set(2, 0);
         due("never", x.done(), -4);
+    }
+
+    private static void promise19TheWeekTurnsOverAlsoBeyondTheLastDay() {
+        // DAY 999 is day 5 of the week.
+        MangleLine x = Check.daysTo(Check.told("soak 9;sun 0 0 0 0 9 0 0;"), 999);
+        x.bring(0, 0);
+        x.bring(0, 0);
+        due("by DAY 1005", x.done(), 7);
+        due("DAY", x.rule(1), 999);
     }
 
     private static void promise19ChangesNothing() {

@@ -1,11 +1,6 @@
-import java.math.BigInteger;
-
 /** The edges of promise 34, a test for each sentence that names one. */
 public final class EdgeDriftTest {
     private static final Check CHECK = new Check("EdgeDriftTest");
-    private static final BigInteger TIMES = BigInteger.valueOf(1103515245);
-    private static final BigInteger AND = BigInteger.valueOf(12345);
-    private static final BigInteger INTS = BigInteger.ONE.shiftLeft(32);
     private static final int[] SEEDS = {0, 1, -1, 7, 12345, Integer.MAX_VALUE, Integer.MIN_VALUE};
 
     public static void main(String[] args) {
@@ -15,23 +10,6 @@ public final class EdgeDriftTest {
 
     private static void due(String call, long got, long want) {
         CHECK.due(call, got, want);
-    }
-
-    /** A seed by which just this is got on the first DAY; above bit 30 and below bit 16 stands what is given. */
-    private static int seedFor(int got, int bit31, int below) {
-        BigInteger turned = BigInteger.valueOf(((long) bit31 << 31) + ((long) got << 16) + below);
-        return turned.subtract(AND).multiply(TIMES.modInverse(INTS)).mod(INTS).intValue();
-    }
-
-    /** What is got on the DAYS of a seed, by numbers that never turn over. */
-    private static int[] gotBy(int seed, int n) {
-        int[] got = new int[n];
-        BigInteger turning = BigInteger.valueOf(seed);
-        for (int d = 0; d < n; d++) {
-            turning = turning.multiply(TIMES).add(AND);
-            got[d] = turning.mod(INTS).intValue() >> 16 & 32767;
-        }
-        return got;
     }
 
     /** So many clean ones, all HOME: nobody is boiled or bleached. */
@@ -71,7 +49,7 @@ public final class EdgeDriftTest {
     private static void promise34OneDayAndSixtyDaysOfEachSeed() {
         for (int seed : SEEDS) {
             MangleLine x = home(1);
-            int[] got = gotBy(seed, 60);
+            int[] got = Seeds.gotBy(seed, 60);
             int grey = 0;
             for (int n = 1; n <= 60; n++) {
                 grey = Math.min(60, grey + got[n - 1] / 128 % 3);
@@ -91,8 +69,8 @@ public final class EdgeDriftTest {
                     x.alter(i, 1, i == who ? 0 : 60);
                 }
                 int others = 60 * (ones - 1);
-                due("ONE " + who + " of " + ones, x.drift(seedFor(16 * by16, 0, 0), 1, 1), others + 2);
-                due("up to 15 more", x.drift(seedFor(16 * by16 + 15, 1, 65535), 1, 1), others + 2);
+                due("ONE " + who + " of " + ones, x.drift(Seeds.seedFor(16 * by16, 0, 0), 1, 1), others + 2);
+                due("up to 15 more", x.drift(Seeds.seedFor(16 * by16 + 15, 1, 65535), 1, 1), others + 2);
             }
         }
     }
@@ -103,8 +81,8 @@ public final class EdgeDriftTest {
         int[] more = {0, 0, 1, 1, 2, 2, 0, 0};
         for (int k = 0; k < got.length; k++) {
             for (int bit31 = 0; bit31 < 2; bit31++) {
-                due("got " + got[k], x.drift(seedFor(got[k], bit31, 0), 1, 1), more[k]);
-                due("got " + got[k], x.drift(seedFor(got[k], bit31, 65535), 1, 1), more[k]);
+                due("got " + got[k], x.drift(Seeds.seedFor(got[k], bit31, 0), 1, 1), more[k]);
+                due("got " + got[k], x.drift(Seeds.seedFor(got[k], bit31, 65535), 1, 1), more[k]);
             }
         }
     }
@@ -115,7 +93,7 @@ public final class EdgeDriftTest {
         int[] then = {59, 60, 60, 60};
         for (int k = 0; k < greys.length; k++) {
             x.alter(0, 1, greys[k]);
-            due("2 more than " + greys[k], x.drift(seedFor(256, 0, 0), 1, 1), then[k]);
+            due("2 more than " + greys[k], x.drift(Seeds.seedFor(256, 0, 0), 1, 1), then[k]);
         }
     }
 
@@ -125,25 +103,25 @@ public final class EdgeDriftTest {
             MangleLine x = Check.told("plain 0;sun 9 9 9 9 9 9 9;");
             if (sun > 0) {
                 x.set(4, sun);
-                due("dries " + sun, x.drift(seedFor(sun, 0, 0), 1, 0), 1);
-                due("dries " + sun, x.drift(seedFor(110 + sun, 1, 9), 1, 0), 1);
+                due("dries " + sun, x.drift(Seeds.seedFor(sun, 0, 0), 1, 0), 1);
+                due("dries " + sun, x.drift(Seeds.seedFor(110 + sun, 1, 9), 1, 0), 1);
             }
             x.set(4, sun + 1);
-            due("dries no more than " + sun, x.drift(seedFor(sun, 0, 0), 1, 0), 0);
+            due("dries no more than " + sun, x.drift(Seeds.seedFor(sun, 0, 0), 1, 0), 0);
             x.set(0, 0);
             x.alter(0, 1, 9);
-            due("bleached from 5 on", x.drift(seedFor(sun, 0, 0), 1, 1), sun >= 5 ? 8 : 9);
+            due("bleached from 5 on", x.drift(Seeds.seedFor(sun, 0, 0), 1, 1), sun >= 5 ? 8 : 9);
         }
     }
 
     private static void promise34GreyerAheadOfTheDay() {
         // 259: SUN 9, ONE 0, 2 more: 1 and 2 are scrubbed by 3.
         MangleLine x = Check.told("plain 1;soak 9;");
-        due("HOME", x.drift(seedFor(259, 0, 0), 1, 0), 1);
-        due("GREY", x.drift(seedFor(259, 0, 0), 1, 1), 0);
+        due("HOME", x.drift(Seeds.seedFor(259, 0, 0), 1, 0), 1);
+        due("GREY", x.drift(Seeds.seedFor(259, 0, 0), 1, 1), 0);
         x.alter(0, 1, 3);
-        due("5 less 3 less 1", x.drift(seedFor(259, 0, 0), 1, 1), 1);
-        due("not HOME", x.drift(seedFor(259, 0, 0), 1, 0), 0);
+        due("5 less 3 less 1", x.drift(Seeds.seedFor(259, 0, 0), 1, 1), 1);
+        due("not HOME", x.drift(Seeds.seedFor(259, 0, 0), 1, 0), 0);
     }
 
     private static void promise34OnTheLastDay() {

@@ -38,6 +38,15 @@ public final class EdgeSeenTest {
         due("SEEN", x.count(0), 4);
     }
 
+    private static void promise29OfTheLastOne() {
+        MangleLine x = Check.told("plain 0;plain 0;plain 0;plain 0;plain 0;plain 0;batch 6;pegs 6;");
+        x.see(1, 5, 2);
+        due("ONE 5 is a napkin", x.kinds(5), 8);
+        due("no KIND of ONE 4 tells", x.kinds(4), 0);
+        x.alter(5, 0, 3);
+        due("any KIND of ONE 4 does then", x.kinds(4), 15);
+    }
+
     private static void promise29TheSixthIsTakenTheSeventhIsNot() {
         MangleLine x = Check.told("plain 0;");
         for (int s = 1; s <= 6; s++) {
@@ -155,6 +164,15 @@ public final class EdgeSeenTest {
         x.forget(0);
         x.see(0, 0, 1);
         due("on the LINE now", x.kinds(0), 0);
+    }
+
+    private static void promise31TheWeekTurnsOver() {
+        // A creased one dries by 4 on day 0 of a week, a plain one by 9.
+        MangleLine x = Check.told("plain 0;soak 8;sun 9 0 0 0 0 0 0;");
+        x.see(7, 0, 1);
+        due("on the LINE behind seven DAYS", x.kinds(0), 4);
+        x.see(8, 0, 2);
+        due("HOME behind eight", x.kinds(0), 4);
     }
 
     private static void promise31ChangesNothing() {

@@ -249,6 +249,23 @@ public final class EdgeTextTest {
         }
     }
 
+    private static void promise4ATextTellsNothingOfTheSheets() {
+        for (Scene scene : Scene.values()) {
+            MangleLine x = scene.make();
+            x.end(0);
+            int cells = x.count(3);
+            int torn = x.torn();
+            due("text()", Check.fed(x, "napkin 1;").text(), 1);
+            due("CELLS of SHEET 0", x.count(3), cells);
+            due("torn()", x.torn(), torn);
+        }
+        MangleLine x = Scene.BUSY.make();
+        x.end(0);
+        x.text();
+        due("what was laid is read", x.read(0, 0, 0, 2), 2);
+        due("GREY", x.rule(5), 50);
+    }
+
     private static void promise4SunsThatAreNotToldAre4() {
         StringBuilder suns = new StringBuilder("sun");
         for (int n = 0; n <= 7; n++) {
@@ -323,6 +340,9 @@ public final class EdgeTextTest {
             faulty(word.substring(0, word.length() - 1) + " 1;", 2, 0);
             faulty(word + "a 1;", 2, 0);
             faulty("plain 1; a" + word + " 1;", 2, 9);
+            for (int c = 0; c < word.length(); c++) {
+                faulty(word.substring(0, c) + "z" + word.substring(c + 1) + " 1;", 2, 0);
+            }
         }
         faulty("a".repeat(160), 2, 0);
     }
@@ -397,8 +417,15 @@ public final class EdgeTextTest {
     }
 
     private static void promise4Fault4ForTheSecondTime() {
-        for (String word : List.of("blue", "batch", "pegs", "pass", "soak", "sun")) {
+        List<String> words = List.of("blue", "batch", "pegs", "pass", "soak", "sun");
+        for (String word : words) {
             String line = word + " 1;";
+            for (String other : words) {
+                if (!other.equals(word)) {
+                    String both = line + other + " 1;";
+                    faulty(both + line, 4, both.length());
+                }
+            }
             faulty(line + line, 4, line.length());
             faulty(line + "plain 1; " + line, 4, line.length() + 9);
             faulty(line + word, 4, line.length());

@@ -108,8 +108,18 @@ public final class FaceTest {
             CHECK.holds(c + " has " + fields + " fields", fields <= 20);
             for (Method method : c.getDeclaredMethods()) {
                 CHECK.holds("parameters of " + method, method.getParameterCount() <= 7);
+                CHECK.holds("a name of the face: " + method, outer || !isOfTheFace(method.getName()));
             }
         }
+    }
+
+    private static boolean isOfTheFace(String name) {
+        for (String signature : FACE) {
+            if (signature.contains(" " + name + "(")) {
+                return true;
+            }
+        }
+        return false;
     }
 
     private static String withoutComments(String source) {

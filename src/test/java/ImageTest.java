@@ -7,7 +7,6 @@ public final class ImageTest {
         whatAnImageIs();
         whatWasSeen();
         twoImages();
-        imagesAreNotShared();
         wrong();
         CHECK.end();
     }
@@ -126,22 +125,6 @@ public final class ImageTest {
         due("a text takes them away", x.count(1), 0);
         due("back(0)", x.back(0), -2);
         due("keep(0)", x.keep(0), 0);
-    }
-
-    private static void imagesAreNotShared() {
-        MangleLine x = Check.told("plain 7;");
-        x.see(1, 0, 1);
-        x.keep(0);
-        x.back(0);
-        x.alter(0, 1, 60);
-        x.shine(0, 9);
-        x.set(0, 9);
-        x.forget(0);
-        x.back(0);
-        due("GREY", x.one(0, 1), 7);
-        due("sun(0)", x.sun(0), 4);
-        due("BLUE", x.told(0), 3);
-        due("SEEN", x.count(0), 1);
     }
 
     private static void wrong() {

@@ -93,18 +93,9 @@ public final class SheetTest {
         due("INTS below", greyOf(2, Integer.MIN_VALUE + 4), -1);
     }
 
-    /** SHEET k holds pairs. */
-    private static MangleLine laid(MangleLine x, int k, int lane, int... cells) {
-        x.sheet(k, lane, cells.length);
-        for (int i = 0; i < cells.length; i++) {
-            x.lay(k, i, cells[i]);
-        }
-        return x;
-    }
-
     private static void readAll() {
         for (int lane = 0; lane < 3; lane++) {
-            MangleLine x = laid(new MangleLine(), lane + 1, lane, 0, 60, 1, 0, 2, 30, 3, 7);
+            MangleLine x = Check.laid(new MangleLine(), lane + 1, lane, 0, 60, 1, 0, 2, 30, 3, 7);
             due("read", x.read(lane + 1, lane, 0, 4), 4);
             due("torn", x.torn(), 0);
             int[] greys = {60, 0, 30, 7};
@@ -120,14 +111,14 @@ public final class SheetTest {
     }
 
     private static void readFromACell() {
-        MangleLine x = laid(new MangleLine(), 0, 0, 9, 1, 5, 2, 6);
+        MangleLine x = Check.laid(new MangleLine(), 0, 0, 9, 1, 5, 2, 6);
         due("from CELL 1", x.read(0, 0, 1, 2), 2);
         due("KIND", x.one(0, 0), 1);
         due("GREY", x.one(1, 1), 6);
     }
 
     private static void cutShort() {
-        MangleLine x = laid(new MangleLine(), 0, 0, 0, 1, 1, 2, 9);
+        MangleLine x = Check.laid(new MangleLine(), 0, 0, 0, 1, 1, 2, 9);
         due("a half is not whole", x.read(0, 0, 0, 3), 2);
         due("torn", x.torn(), 2);
         due("two", x.rule(0), 2);
@@ -151,7 +142,7 @@ public final class SheetTest {
     }
 
     private static void refused() {
-        MangleLine x = laid(new MangleLine(), 0, 2, 0, 1, 1, 2, 4, 3, 0, 61);
+        MangleLine x = Check.laid(new MangleLine(), 0, 2, 0, 1, 1, 2, 4, 3, 0, 61);
         due("the third", x.read(0, 2, 0, 4), -22);
         due("none came", x.rule(0), 0);
         due("the first of these", x.read(0, 2, 4, 2), -20);
@@ -165,7 +156,7 @@ public final class SheetTest {
     }
 
     private static void refusedAheadOfTheCut() {
-        MangleLine x = laid(new MangleLine(), 0, 0, 0, 1, 0, 61, 7);
+        MangleLine x = Check.laid(new MangleLine(), 0, 0, 0, 1, 0, 61, 7);
         due("refused first", x.read(0, 0, 0, 3), -21);
         due("none came", x.rule(0), 0);
         due("torn as it was", x.torn(), 0);
@@ -187,7 +178,7 @@ public final class SheetTest {
     }
 
     private static void nothingAndAnotherLane() {
-        MangleLine x = laid(new MangleLine(), 1, 1, 0, 1, 0, 1);
+        MangleLine x = Check.laid(new MangleLine(), 1, 1, 0, 1, 0, 1);
         due("nothing", x.read(0, 0, 0, 1), 0);
         due("NULL", x.torn(), 1);
         due("nothing at any lane", x.read(0, 2, -5, 20), 0);
@@ -205,7 +196,7 @@ public final class SheetTest {
 
     /** 0 times nothing is read: the machine refuses nothing, and an earlier FAULT is the latest no more. */
     private static void noneToRead() {
-        MangleLine x = laid(new MangleLine(), 1, 1, 0, 1);
+        MangleLine x = Check.laid(new MangleLine(), 1, 1, 0, 1);
         x.sheet(2, 0, 0);
         readsNone(x, 0, 0, 0);
         readsNone(x, 0, 2, -7);
@@ -226,7 +217,7 @@ public final class SheetTest {
     }
 
     private static void tornIsOfTheLatestThatEnded() {
-        MangleLine x = laid(new MangleLine(), 0, 0, 0, 61);
+        MangleLine x = Check.laid(new MangleLine(), 0, 0, 0, 61);
         x.read(1, 0, 0, 1);
         due("NULL", x.torn(), 1);
         due("refused", x.read(0, 0, 0, 1), -20);
@@ -239,7 +230,7 @@ public final class SheetTest {
     }
 
     private static void wrong() {
-        MangleLine x = laid(new MangleLine(), 0, 0, 0, 1);
+        MangleLine x = Check.laid(new MangleLine(), 0, 0, 0, 1);
         due("k -1", x.read(-1, 0, 0, 1), -1);
         due("k 4", x.read(4, 0, 0, 1), -1);
         due("lane -1", x.read(0, -1, 0, 1), -1);
